@@ -177,7 +177,7 @@ public final class RugReader {
             return NONE;
         }
         undoable--;
-        Rug last = earlier[(oldest + undoable) % UNDOES];
+        Rug last = earlier[Math.floorMod(oldest + undoable, UNDOES)];
         if (last != null) {
             rug.copyFrom(last);
         }
@@ -189,7 +189,7 @@ public final class RugReader {
             oldest = (oldest + 1) % UNDOES;
             undoable--;
         }
-        Rug room = earlier[(oldest + undoable) % UNDOES];
+        Rug room = earlier[Math.floorMod(oldest + undoable, UNDOES)];
         if (room != null) {
             room.copyFrom(rug);
         }
@@ -800,8 +800,10 @@ public final class RugReader {
             System.arraycopy(other.wayName, 0, wayName, 0, WAYS);
             System.arraycopy(other.wayLength, 0, wayLength, 0, WAYS);
             System.arraycopy(other.wayTuft, 0, wayTuft, 0, WAYS * LONGEST);
-            System.arraycopy(other.wall, 0, wall, 0, TUFTS);
             System.arraycopy(other.door, 0, door, 0, DOORS);
+            for (int at = 0; at < TUFTS; at++) {
+                wall[at] = other.wall[at];
+            }
         }
 
         int fadeDays() {
@@ -1721,8 +1723,10 @@ public final class RugReader {
         private final int[] lastWay = new int[MOST_TOLD];
         private final int[] passes = new int[WAYS * MOST_TOLD];
         private final boolean[] free = new boolean[WAYS];
-        /** By how many WAYS are settled, and by told TUFT: the DEPTH that lacks yet, and the SOLE ON TOP so far. */
+        /** By how many WAYS are settled, and by told TUFT: the DEPTH that lacks yet, the most that can come yet. */
         private final int[] lacks = new int[(WAYS + 1) * MOST_TOLD];
+        private final int[] mayCome = new int[(WAYS + 1) * MOST_TOLD];
+        /** Likewise the SOLE ON TOP so far. */
         private final int[] top = new int[(WAYS + 1) * MOST_TOLD];
         private final int[] chosen = new int[WAYS];
         private int found = 0;
@@ -1737,8 +1741,8 @@ public final class RugReader {
             }
             lookAtWays(house);
             found = 0;
-            if (unreachedFit()) {
-                settle(house, 0);
+            if (mayFit()) {
+                settle(house, 0, 0);
             }
             if (found > 0) {
                 anyRead = true;
@@ -1769,45 +1773,49 @@ public final class RugReader {
             return true;
         }
 
+        /** From the last WAY back: how often each goes over told TUFTS, and the DEPTH that can come from it on. */
         private void lookAtWays(House house) {
-            for (int t = 0; t < told && t < MOST_TOLD; t++) {
+            int most = heaviest(house) * house.fadeDays();
+            for (int t = 0; t < MOST_TOLD; t++) {
                 lastWay[t] = NONE;
+                mayCome[WAYS * MOST_TOLD + t] = 0;
             }
-            for (int way = 0; way < WAYS; way++) {
+            for (int way = WAYS - 1; way >= 0; way--) {
                 free[way] = true;
                 for (int t = 0; t < told && t < MOST_TOLD; t++) {
-                    int often = house.passes(way, at[t]);
-                    passes[way * MOST_TOLD + t] = often;
-                    if (often > 0) {
+                    int i = way * MOST_TOLD + t;
+                    passes[i] = house.passes(way, at[t]);
+                    mayCome[i] = mayCome[i + MOST_TOLD] + passes[i] * most;
+                    if (passes[i] > 0) {
                         free[way] = false;
-                        lastWay[t] = way;
+                        lastWay[t] = Math.max(lastWay[t], way);
                     }
                 }
             }
         }
 
-        /** Whether the told TUFTS over which no WAY goes are so. */
-        private boolean unreachedFit() {
+        private static int heaviest(House house) {
+            int most = 0;
+            for (int p = 0; p < house.people; p++) {
+                most = Math.max(most, house.weightOf(p));
+            }
+            return most;
+        }
+
+        /** Whether there can be READINGS: no TUFT too deep, and no SOLE where no WAY goes. */
+        private boolean mayFit() {
             for (int t = 0; t < told && t < MOST_TOLD; t++) {
-                if (lastWay[t] == NONE && !fits(0, t)) {
+                if (lacks[t] > mayCome[t] || lastWay[t] == NONE && sole[t] != ANY_SOLE) {
                     return false;
                 }
             }
             return true;
         }
 
-        private boolean fits(int settled, int t) {
-            if (settled < 0 || settled > WAYS || t < 0 || t >= MOST_TOLD) {
-                return false;
-            }
-            int i = settled * MOST_TOLD + t;
-            return lacks[i] == 0 && (sole[t] == ANY_SOLE || sole[t] == top[i]);
-        }
-
-        /** Finds all READINGS that go on from the WAYS ahead of this one as they are chosen. */
-        private void settle(House house, int way) {
+        /** Finds all READINGS that go on from the WAYS ahead of this one as they are chosen; walkers as bits. */
+        private void settle(House house, int way, int walkers) {
             if (way >= house.ways || way < 0 || way >= WAYS) {
-                record(house);
+                record(house, Integer.bitCount(walkers));
                 return;
             }
             // A WAY over none of the told TUFTS can be anybody's: nobody stands for all until addFreeWays.
@@ -1815,7 +1823,7 @@ public final class RugReader {
             for (int p = NONE; p < people; p++) {
                 chosen[way] = p;
                 if (mayWalk(house, way, p)) {
-                    settle(house, way + 1);
+                    settle(house, way + 1, p == NONE ? walkers : walkers | 1 << p);
                 }
             }
         }
@@ -1827,34 +1835,31 @@ public final class RugReader {
             int each = house.weightOf(p) * house.fadeDays();
             for (int t = 0; t < told && t < MOST_TOLD; t++) {
                 int i = way * MOST_TOLD + t;
-                boolean treads = p != NONE && passes[i] > 0;
-                lacks[i + MOST_TOLD] = lacks[i] - (treads ? passes[i] * each : 0);
-                top[i + MOST_TOLD] = treads ? house.soleOf(p) : top[i];
-                if (lacks[i + MOST_TOLD] < 0 || lastWay[t] == way && !fits(way + 1, t)) {
+                int next = i + MOST_TOLD;
+                lacks[next] = lacks[i] - passes[i] * each;
+                top[next] = p != NONE && passes[i] > 0 ? house.soleOf(p) : top[i];
+                if (lacks[next] < 0 || lacks[next] > mayCome[next]) {
+                    return false;
+                }
+                if (lastWay[t] == way && sole[t] != ANY_SOLE && sole[t] != top[next]) {
                     return false;
                 }
             }
             return true;
         }
 
-        private void record(House house) {
+        private void record(House house, int people) {
             found++;
-            int walkers = 0;
-            for (int way = 0; way < house.ways && way < WAYS; way++) {
-                int p = chosen[way];
-                if (p != NONE) {
-                    walkers |= 1 << p;
-                }
-                if (found == 1) {
-                    first[way] = p;
-                    byAll[way] = p;
-                } else if (byAll[way] != p) {
-                    byAll[way] = UNLIKE;
-                }
-            }
-            int people = Integer.bitCount(walkers);
             if (found == 1 || people < fewestPeople) {
                 fewestPeople = people;
+            }
+            for (int way = 0; way < house.ways && way < WAYS; way++) {
+                if (found == 1) {
+                    first[way] = chosen[way];
+                    byAll[way] = chosen[way];
+                } else if (byAll[way] != chosen[way]) {
+                    byAll[way] = UNLIKE;
+                }
             }
         }
 
@@ -1887,7 +1892,7 @@ public final class RugReader {
         private final boolean[] settled = new boolean[TUFTS];
 
         boolean find(House house, Rug rug, int p, int from, int to) {
-            if (!house.isPerson(p) || !house.onRug(from) || !house.onRug(to) || house.isWall(from) || house.isWall(to)) {
+            if (!house.isPerson(p) || !isFree(house, from) || !isFree(house, to)) {
                 return false;
             }
             for (int at = 0; at < TUFTS; at++) {
@@ -1911,6 +1916,10 @@ public final class RugReader {
             return best < FAR;
         }
 
+        private static boolean isFree(House house, int at) {
+            return house.onRug(at) && !house.isWall(at);
+        }
+
         private static int markOf(Rug rug, int at, int own) {
             return rug.soleOn(at) == own ? 0 : MARK;
         }
@@ -1932,7 +1941,7 @@ public final class RugReader {
             settled[at] = true;
             for (int dir = 0; dir < 4; dir++) {
                 int on = house.stepFrom(at, dir);
-                if (on >= 0 && on < TUFTS && !house.isWall(on)) {
+                if (on >= 0 && on < TUFTS && isFree(house, on)) {
                     cost[on] = Math.min(cost[on], cost[at] + 1 + markOf(rug, on, own));
                 }
             }

@@ -1,9 +1,7 @@
 import com.sun.source.tree.AssertTree;
-import com.sun.source.tree.AssignmentTree;
 import com.sun.source.tree.BinaryTree;
 import com.sun.source.tree.ClassTree;
 import com.sun.source.tree.CompilationUnitTree;
-import com.sun.source.tree.EnhancedForLoopTree;
 import com.sun.source.tree.ImportTree;
 import com.sun.source.tree.LambdaExpressionTree;
 import com.sun.source.tree.MemberReferenceTree;
@@ -52,8 +50,9 @@ public final class LanguageTests {
             + "person(int,int)int tuft(int,int)int way(int,int)int goes(int,int,int)int days(int)int beat(int,int)int "
             + "undo()int hidden(int)int missing(int)int soles(int)int deepest()int who(int)int age(int,int)int "
             + "readings()int read(int,int)int fewest()int sign(int,int,int)int steps(int,int,int)int walk()int "
-            + "walked(int)int seen(int,int)int lay(int)int spot()int ways(int)int both(int,int)int years(int,int,int)int "
-            + "rarest()int sentence()int said(int)int image(int)boolean restore(int)boolean count(int)int";
+            + "walked(int)int seen(int,int)int lay(int)int spot()int ways(int)int both(int,int)int "
+            + "years(int,int,int)int rarest()int sentence()int said(int)int "
+            + "image(int)boolean restore(int)boolean count(int)int";
     private static int passed = 0;
     private static int failed = 0;
 
@@ -283,11 +282,6 @@ public final class LanguageTests {
         }
 
         @Override
-        public Void visitEnhancedForLoop(EnhancedForLoopTree t, Void v) {
-            return super.visitEnhancedForLoop(t, v);
-        }
-
-        @Override
         public Void visitNewClass(NewClassTree t, Void v) {
             // Rows and objects are made once, in fields and constructors: nothing but an exception is made by a call.
             boolean made = method.isEmpty() || method.endsWith(".<init>");
@@ -334,11 +328,6 @@ public final class LanguageTests {
                 bad("6: a cast to look at", t);
             }
             return super.visitTypeCast(t, v);
-        }
-
-        @Override
-        public Void visitAssignment(AssignmentTree t, Void v) {
-            return super.visitAssignment(t, v);
         }
 
         /** The calls that stand open at once: eight deep, those that call themselves left out. */

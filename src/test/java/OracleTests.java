@@ -36,6 +36,16 @@ public final class OracleTests {
                 System.out.println("  last told: " + t.told.subList(Math.max(0, t.told.size() - 12), t.told.size()));
             }
         }
+        for (int seed = from; seed < from + runs && failed < 5; seed++) {
+            OracleTests t = new OracleTests(seed);
+            t.mazes();
+            if (t.right) {
+                passed++;
+            } else {
+                failed++;
+                System.out.println("drawn mazes " + seed + " went wrong: " + t.told);
+            }
+        }
         System.out.println(passed + " passed, " + failed + " failed");
         System.exit(failed == 0 ? 0 : 1);
     }
@@ -47,6 +57,43 @@ public final class OracleTests {
         }
         for (int i = 0; i < 480 && right && calls < 460; i++) {
             one(r.nextInt(60));
+        }
+    }
+
+    /** Houses full of walls and doors: where ways on must be turned off others to see how many there are. */
+    private void mazes() {
+        for (int i = 0; i < 2 && right; i++) {
+            int w = in(3, 9);
+            int h = in(3, 9);
+            StringBuilder t = new StringBuilder("rug " + w + " " + h + ";person a 1 1 1;");
+            java.util.Set<String> told = new java.util.TreeSet<>();
+            for (int k = Math.min(30, w * h * in(0, 5) / 10); k > 0; k--) {
+                told.add("wall " + r.nextInt(w) + " " + r.nextInt(h) + ";");
+            }
+            for (int k = 0; k < 6; k++) {
+                told.add("door " + r.nextInt(w) + " " + r.nextInt(h) + ";");
+            }
+            told.forEach(t::append);
+            tell(t.toString());
+            same("house", x::house, m::house);
+            for (int a = 0; a < 6; a++) {
+                for (int b = 0; b < 6; b++) {
+                    seen(a, b, 4);
+                }
+            }
+            for (int k = 0; k < 20; k++) {
+                int at = anyTuft();
+                int to = anyTuft();
+                same("steps(0," + at + "," + to + ")", () -> x.steps(0, at, to), () -> m.steps(0, at, to));
+            }
+        }
+    }
+
+    private void seen(int a, int b, int most) {
+        same("seen(" + a + "," + b + ")", () -> x.seen(a, b), () -> m.seen(a, b));
+        for (int i = 0; i < most; i++) {
+            int of = i;
+            same("lay(" + i + ")", () -> x.lay(of), () -> m.lay(of));
         }
     }
 
@@ -198,8 +245,8 @@ public final class OracleTests {
     private String line(char sort, int w, int h, int people, int ways) {
         String at = num(0, w - 1) + blank() + num(0, h - 1);
         if (sort == 'p') {
-            return "person " + (people < 6 ? "abcdfg".charAt(people) : 'h') + " " + num(1, 9) + " " + num(0, 3) + blank()
-                    + num(1, 9);
+            char n = people < 6 ? "abcdfg".charAt(people) : 'h';
+            return "person " + n + " " + num(1, 9) + " " + num(0, 3) + blank() + num(1, 9);
         }
         if (sort == 'y') {
             String n = r.nextInt(9) == 0 ? name("abpqk") : "" + "pqrtuvx".charAt(Math.min(6, ways));
@@ -219,9 +266,11 @@ public final class OracleTests {
     }
 
     private void walk() {
-        String walker = m.house.people.isEmpty() ? name("abc") : m.house.people.get(r.nextInt(m.house.people.size())).name();
-        StringBuilder t = new StringBuilder((r.nextInt(12) == 0 ? name("abp") : walker) + " " + num(0, Math.max(0, m.house.w - 1)) + " "
-                + num(0, Math.max(0, m.house.h - 1)) + ";");
+        List<Model.Person> people = m.house.people;
+        String walker = people.isEmpty() ? name("abc") : people.get(r.nextInt(people.size())).name();
+        StringBuilder t = new StringBuilder(r.nextInt(12) == 0 ? name("abp") : walker);
+        t.append(" ").append(num(0, Math.max(0, m.house.w - 1))).append(" ");
+        t.append(num(0, Math.max(0, m.house.h - 1))).append(";");
         int lines = r.nextInt(6) == 0 ? in(0, 34) : in(0, 6);
         for (int i = 0; i < lines; i++) {
             boolean short1 = r.nextInt(3) > 0;
@@ -245,8 +294,8 @@ public final class OracleTests {
         if (budget <= 0 || k < 4) {
             return r.nextInt(3) == 0 ? "trod " + (m.house.ways.isEmpty() || r.nextInt(40) == 0 ? name("pqa")
                     : m.house.ways.get(r.nextInt(m.house.ways.size())).name())
-                    : oneOf("weight", "sole", "pace", "prints", "tufts", "place") + oneOf(" ", "") + oneOf("<", "=", ">")
-                    + oneOf(" ", "") + num(0, oneOf("a", "bb").length() == 1 ? 9 : 40);
+                    : oneOf("weight", "sole", "pace", "prints", "tufts", "place") + oneOf(" ", "")
+                    + oneOf("<", "=", ">") + oneOf(" ", "") + num(0, oneOf("a", "bb").length() == 1 ? 9 : 40);
         }
         if (k < 6) {
             return "not " + cond(budget - 1);
@@ -328,6 +377,10 @@ public final class OracleTests {
         return r.nextInt(40) == 0 ? near(0, 143) : 12 * in(0, h - 1) + in(0, w - 1);
     }
 
+    private int trodTuft() {
+        return m.treads.isEmpty() ? anyTuft() : m.treads.get(r.nextInt(m.treads.size())).at();
+    }
+
     private int anyPerson() {
         return near(0, m.house.people.size() - 1);
     }
@@ -338,7 +391,7 @@ public final class OracleTests {
 
     private void look() {
         for (int k = 0; k < 6; k++) {
-            int at = k > 0 && !m.treads.isEmpty() ? m.treads.get(r.nextInt(m.treads.size())).at() : anyTuft();
+            int at = k > 0 ? trodTuft() : anyTuft();
             int what = near(0, 7);
             same("tuft(" + at + "," + what + ")", () -> x.tuft(at, what), () -> m.tuft(at, what));
             int p = anyPerson();
@@ -352,7 +405,7 @@ public final class OracleTests {
         int q = anyPerson();
         int way = anyWay();
         int other = anyWay();
-        int at = r.nextInt(3) > 0 && !m.treads.isEmpty() ? m.treads.get(r.nextInt(m.treads.size())).at() : anyTuft();
+        int at = r.nextInt(3) > 0 ? trodTuft() : anyTuft();
         int to = anyTuft();
         int k = near(-1, 5);
         switch (kind) {
@@ -368,7 +421,8 @@ public final class OracleTests {
             case 13 -> said();
             case 1, 14, 15, 16, 17, 18, 19, 20 -> {
                 int soles = r.nextInt(2) == 0 ? p : q;
-                same("goes(" + p + "," + way + "," + soles + ")", () -> x.goes(p, way, soles), () -> m.goes(p, way, soles));
+                same("goes(" + p + "," + way + "," + soles + ")", () -> x.goes(p, way, soles),
+                        () -> m.goes(p, way, soles));
                 look();
             }
             case 21, 22, 23 -> {
@@ -410,16 +464,16 @@ public final class OracleTests {
                 look();
                 said();
             }
-            case 36, 37 -> same("sign(" + p + "," + at + "," + to + ")", () -> x.sign(p, at, to), () -> m.sign(p, at, to));
-            case 38, 39 -> same("steps(" + p + "," + at + "," + to + ")", () -> x.steps(p, at, to), () -> m.steps(p, at, to));
+            case 36, 37 -> same("sign(" + p + "," + at + "," + to + ")", () -> x.sign(p, at, to),
+                    () -> m.sign(p, at, to));
+            case 38, 39 -> same("steps(" + p + "," + at + "," + to + ")", () -> x.steps(p, at, to),
+                    () -> m.steps(p, at, to));
             case 40, 41, 42 -> {
                 int a = near(0, m.house.doors.size() - 1);
                 int b = near(0, m.house.doors.size() - 1);
-                same("seen(" + a + "," + b + ")", () -> x.seen(a, b), () -> m.seen(a, b));
-                for (int i = -2; i < 5; i++) {
-                    int of = i;
-                    same("lay(" + i + ")", () -> x.lay(of), () -> m.lay(of));
-                }
+                seen(a, b, 5);
+                int of = near(-1, 4);
+                same("lay(" + of + ")", () -> x.lay(of), () -> m.lay(of));
             }
             case 43 -> same("spot", x::spot, m::spot);
             case 44 -> same("ways(" + at + ")", () -> x.ways(at), () -> m.ways(at));

@@ -207,6 +207,8 @@ public final class PromiseTests {
         is("it stays", x.count(3), 2);
         x.goes(0, 0, 0);
         x.days(3);
+        x.goes(1, 1, 1);
+        x.undo();
         tell(x, "weight>0");
         x.sentence();
         tell(x, "?");
@@ -215,6 +217,7 @@ public final class PromiseTests {
         is("its rug stays", x.tuft(0, 0), 3);
         is("its SENTENCE stays", x.said(-1), 2);
         is("its acts stay", x.undo(), 1);
+        x.beat(0, 28);
         tell(x, "rug 4 4;person a 1 1 1;way p 0 0;");
         is("house", x.house(), 3);
         is("fault", x.fault(), 0);
@@ -225,12 +228,13 @@ public final class PromiseTests {
         is("a new HOUSE: nothing can be undone", x.undo(), -1);
         is("a new HOUSE: nobody walked", x.person(0, 5), 0);
         is("a new HOUSE: nothing hidden", x.hidden(-1), 0);
+        is("a new HOUSE: nothing missing", x.missing(0), 0);
     }
 
     private static void faultPlaces() {
         promise = "4, 5: FAULTS";
-        String[] words = {"rug", "person", "wall", "door", "way", "fade", "n", "e", "s", "w", "or", "and", "not", "trod",
-            "weight", "sole", "pace", "prints", "tufts", "place"};
+        String[] words = {"rug", "person", "wall", "door", "way", "fade", "n", "e", "s", "w", "or", "and", "not",
+            "trod", "weight", "sole", "pace", "prints", "tufts", "place"};
         for (String word : words) {
             house("person " + word + " 1 1 1;", -8, 1);
             house("rug 2 2;way " + word + " 0 0;", -13, 1);
@@ -276,6 +280,13 @@ public final class PromiseTests {
         house("rug 3 2;way p 0 0 e e;", -21, 1);
         house("rug 3 2;way p 0 0 1;", -19, 1);
         house("fade 3;fade;", -8, 3);
+        house("fade 1;fade 1;", -8, 3);
+        house("fade 0;", -6, 2);
+        house("fade 10;", -6, 2);
+        house("rug 13 4;", -5, 2);
+        house("rug 1 4;", -5, 2);
+        house("person a 1 10 1;", -12, 2);
+        house("rug 4 4;door 1 2;door 1 2;", -25, 3);
         house("trod a;", -1, 1);
         house("n 1;", -1, 1);
         house("fade 3;<", -8, 1);
@@ -591,6 +602,12 @@ public final class PromiseTests {
         is("age(2, 5)", x.age(2, 5), -1);
         is("age(-1, 5)", x.age(-1, 5), -1);
         is("age(0, min)", x.age(0, Integer.MIN_VALUE), -1);
+        RugReader w = of("rug 2 2;fade 1;person a 1 1 1;way p 1 1;");
+        w.goes(0, 0, 0);
+        is("deepest() of a DEPTH of 1", w.deepest(), 13);
+        is("who(1)", w.who(1), 1);
+        is("age(0, 1)", w.age(0, 1), 0);
+        is("age(0, 2)", w.age(0, 2), -1);
         RugReader y = of("person a 2 1 1;person b 3 1 1;person c 7 1 1;");
         is("who of more", y.who(6), 3);
         is("who of more", y.who(14), 5);
@@ -733,6 +750,11 @@ public final class PromiseTests {
         walk(x, "a 0 1;e 2 1;s 2 1;w 2 1;n 2 1;e 5 2;e 1 1;", 5, 0);
         walked(x, 2, 8, 4, 12);
         walk(x, "a 0 1;e 4 2;", -1, 0);
+        RugReader y = of("rug 12 12;person a 1 1 3;");
+        walk(y, "a 0 1;e 9 3;", -1, 0);
+        walk(y, "a 0 1;e 10 3;", 1, 0);
+        walk(y, "a 0 1;e 10 4;s 3 1;s 4 1;", 3, 0);
+        walked(y, 2, 13, 5, 58);
         walk(x, "a 0 1;e 5 2;", 1, 0);
         walked(x, 2, 0, 0, 12);
         walk(x, "a 0 1;e 2 1;w 1 1;", 2, 0);
@@ -925,7 +947,8 @@ public final class PromiseTests {
 
     private static void sentences() {
         promise = "33, 34";
-        RugReader x = of("rug 5 3;person a 3 1 2;person b 5 2 1;person c 5 3 9;way p 0 0 e 4;way q 0 2 n 2 e 1;way r 4 2;");
+        RugReader x = of("rug 5 3;person a 3 1 2;person b 5 2 1;person c 5 3 9;"
+                + "way p 0 0 e 4;way q 0 2 n 2 e 1;way r 4 2;");
         is("said ahead of any", x.said(-1), -1);
         x.goes(0, 0, 1);
         x.goes(1, 1, 0);
@@ -986,6 +1009,10 @@ public final class PromiseTests {
         sentence(x, "weight 5", -8, 1);
         sentence(x, "weight ( 5", -8, 1);
         sentence(x, "weight = =", -10, 1);
+        sentence(x, "weight =", -9, 1);
+        sentence(x, "weight", -7, 1);
+        sentence(x, "trod", -5, 1);
+        sentence(x, "place=1 or (trod", -17, 1);
         sentence(x, "weight = 1000", -10, 1);
         sentence(x, "weight = 999", 1, 0);
         sentence(x, "weight = 5;", -11, 1);
