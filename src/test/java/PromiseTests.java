@@ -1,14 +1,5 @@
-import java.util.NoSuchElementException;
-import java.util.function.IntSupplier;
-
 /** Promise by promise: ordinary inputs, the edges that the document names, wrong inputs. */
-public final class PromiseTests {
-    private static final String HOUSE = "rug 5 3;person a 3 1 2;person b 5 2 1;way p 0 0 e 4;way q 0 2 n 2 e 1;"
-            + "wall 2 1;door 0 0;door 4 2;fade 4;";
-    private static int passed = 0;
-    private static int failed = 0;
-    private static String promise = "";
-
+public final class PromiseTests extends Checks {
     public static void main(String[] args) {
         newObject();
         tape();
@@ -38,101 +29,6 @@ public final class PromiseTests {
         images();
         System.out.println(passed + " passed, " + failed + " failed");
         System.exit(failed == 0 ? 0 : 1);
-    }
-
-    private static void is(String call, int got, int due) {
-        if (got == due) {
-            passed++;
-        } else {
-            failed++;
-            System.out.println(promise + ": " + call + " answered " + got + ", due is " + due);
-        }
-    }
-
-    private static void is(String call, boolean got, boolean due) {
-        is(call, got ? 1 : 0, due ? 1 : 0);
-    }
-
-    private static void none(String call, IntSupplier asked) {
-        boolean thrown = false;
-        try {
-            asked.getAsInt();
-        } catch (NoSuchElementException e) {
-            thrown = true;
-        }
-        is(call + " throws NoSuchElementException", thrown, true);
-    }
-
-    private static void tell(RugReader x, String text) {
-        byte[] bytes = new byte[text.length()];
-        for (int i = 0; i < bytes.length; i++) {
-            bytes[i] = (byte) text.charAt(i);
-        }
-        tell(x, bytes);
-    }
-
-    private static void tell(RugReader x, byte... bytes) {
-        for (int i = 0; i < bytes.length; i += 20) {
-            int[] five = new int[5];
-            for (int k = 0; k < 20; k++) {
-                five[k / 4] = five[k / 4] << 8 | (i + k < bytes.length ? bytes[i + k] & 255 : 0);
-            }
-            x.feed(five[0], five[1], five[2], five[3], five[4]);
-        }
-        x.end(bytes.length);
-    }
-
-    private static RugReader of(String text) {
-        RugReader x = new RugReader();
-        tell(x, text);
-        int lines = x.house();
-        if (lines < 0) {
-            is("house '" + text + "'", lines, text.length() - text.replace(";", "").length());
-        }
-        return x;
-    }
-
-    /** What house() answers to a text, and its FAULT behind that: place and kind, or LINES and 0. */
-    private static void house(String text, int answer, int kind) {
-        RugReader x = new RugReader();
-        tell(x, text);
-        is("house '" + text + "'", x.house(), answer);
-        is("fault of '" + text + "'", x.fault(), kind);
-        is("the tape behind house()", x.count(8), 0);
-    }
-
-    private static void walk(RugReader x, String text, int answer, int kind) {
-        tell(x, text);
-        is("walk '" + text + "'", x.walk(), answer);
-        is("fault of '" + text + "'", x.fault(), kind);
-        is("the tape behind walk()", x.count(8), 0);
-    }
-
-    private static void walked(RugReader x, int why, int gone, int minutes, int at) {
-        is("walked(0)", x.walked(0), why);
-        is("walked(1)", x.walked(1), gone);
-        is("walked(2)", x.walked(2), minutes);
-        is("walked(3)", x.walked(3), at);
-    }
-
-    private static void sentence(RugReader x, String text, int answer, int kind) {
-        tell(x, text);
-        is("sentence '" + text + "'", x.sentence(), answer);
-        is("fault of '" + text + "'", x.fault(), kind);
-        is("the tape behind sentence()", x.count(8), 0);
-    }
-
-    /** How many, and who as bits, of whom a SENTENCE may be said. */
-    private static void said(RugReader x, String text, int bits) {
-        tell(x, text);
-        is("sentence '" + text + "' stands", x.sentence() > 0, true);
-        int got = 0;
-        int many = x.said(RugReader.NONE);
-        for (int k = 0; k < many; k++) {
-            got |= 1 << x.said(k);
-        }
-        is("said of '" + text + "'", got, bits);
-        is("said behind the last", x.said(many), -1);
     }
 
     private static void newObject() {
@@ -326,10 +222,6 @@ public final class PromiseTests {
         RugReader x = of(forty + ";");
         is("way(0, 40)", x.way(0, 40), 48);
         is("way(0, 41)", x.way(0, 41), -1);
-    }
-
-    private static String wide(int many) {
-        return " ".repeat(many);
     }
 
     private static void longTexts() {
