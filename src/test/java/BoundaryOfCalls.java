@@ -204,6 +204,11 @@ final class BoundaryOfCalls extends Boundary {
             is("it is empty", x.count(2), 0);
             tell(x, "rug 2 2;fade 1;rug 2 2;");
             is("a third LINE's FAULT", x.house(), -16);
+            // Nothing of a HOUSE that was is in a later one.
+            RugReader y = new RugReader();
+            for (int i = 0; i < 3; i++) {
+                fullThenEmpty(y);
+            }
             tell(x, "rug 2 2;fade 1;wall 0 0;door 0 0;");
             is("house()", x.house(), 4);
         });
@@ -226,6 +231,27 @@ final class BoundaryOfCalls extends Boundary {
             }
             is("its acts can be undone", x.undo(), 2);
         });
+    }
+
+    private static void fullThenEmpty(RugReader y) {
+        tell(y, BoundaryOfTexts.full().replace("way pa 0 11;", "way pa 0 11 e 3;"));
+        is("a full HOUSE", y.house(), 52);
+        is("its first WAY", y.way(0, 3), 135);
+        is("its first WAY ends", y.way(0, 4), -1);
+        tell(y, "");
+        is("an empty HOUSE", y.house(), 0);
+        int[] due = {0, 0, 0, 0, 0, 0, 9, 0, 0};
+        for (int what = 0; what < due.length; what++) {
+            is("count(" + what + ")", y.count(what), due[what]);
+        }
+        tell(y, "rug 12 12;wall 11 11;");
+        is("a HOUSE of a wall", y.house(), 2);
+        for (int at : new int[] {0, 1, 9, 33, 60, 67}) {
+            is("a wall that was", y.tuft(at, 6), 0);
+            is("a door that was", y.tuft(at, 7), 0);
+        }
+        is("a wall", y.tuft(143, 6), 1);
+        is("seen(0, 1) without doors", y.seen(0, 1), -1);
     }
 
     private static void fault() {
@@ -547,6 +573,15 @@ final class BoundaryOfCalls extends Boundary {
                 is("undo()", x.undo(), i);
                 same("undone", state(x), was[i]);
             }
+            // All of the tread ON TOP comes back: person, SOLE, DIR, age.
+            RugReader z = of(house);
+            z.goes(0, 0, 0);
+            z.days(1);
+            lies(z, 1, 9, 1, 0, 1, 1, 1);
+            z.goes(1, 1, 1);
+            lies(z, 1, 29, 2, 1, 2, 0, 0);
+            is("undo()", z.undo(), 2);
+            lies(z, 1, 9, 1, 0, 1, 1, 1);
             RugReader y = of(house);
             for (int i = 0; i < 9; i++) {
                 y.goes(0, 0, 0);
@@ -1043,6 +1078,10 @@ final class BoundaryOfCalls extends Boundary {
             walk(x, "a 0 0;s 1 1;", -1, 0);
             walk(x, "a 6 0;", -4, 2);
             walked(x, 0, 1, 1, 12);
+            walk(x, "a 0 0;w 1 1;", 1, 0);
+            walked(x, 1, 0, 0, 0);
+            walk(x, "a 2 1;", -1, 0);
+            walked(x, 0, 0, 0, 14);
             walk(x, "a 0 0;" + "s 1 99;n 1 99;".repeat(15), -1, 0);
             walked(x, 0, 30, 2970, 0);
         });
@@ -1310,6 +1349,12 @@ final class BoundaryOfCalls extends Boundary {
             saidNow(x, "twenty ONES", 1);
             sentence(x, "sole=2" + " and sole=2".repeat(17), 18, 0);
             saidNow(x, "eighteen ONES", 2);
+            // As often as one likes: nothing of SENTENCES that were is in a later one.
+            for (int i = 0; i < 10; i++) {
+                sentence(x, "sole=2" + " or sole=1".repeat(17), 18, 0);
+                sentence(x, "sole=1" + " and sole=1".repeat(17), 18, 0);
+                saidNow(x, "the latest one", 1);
+            }
             is("no act", x.undo(), -1);
         });
         promise(33, "-1 less the place of a FAULT: it stays.", () -> {
@@ -1404,6 +1449,29 @@ final class BoundaryOfCalls extends Boundary {
             is("restore(1)", y.restore(1), true);
             is("an empty HOUSE", y.count(0), 0);
         });
+        promise(35, "HOUSE, rug, DAY and SENTENCE are kept", () -> {
+            RugReader x = of(BoundaryOfTexts.full().replace("fade 9;", "fade 8;").replace("way pf 4 11;",
+                    "way pf 4 11 e 7 n 6 w 10 s 4;"));
+            x.years(11, 9, 5);
+            x.beat(142, 143);
+            sentence(x, "(weight<5 or weight>5)and not sole=4 and trod pf", 6, 0);
+            x.image(1);
+            for (int i = 0; i < 2; i++) {
+                tell(x, HOUSE);
+                x.house();
+                sentence(x, "(weight>5 and weight<5)or not sole>4 or trod q", 6, 0);
+            }
+            RugReader y = of(BoundaryOfTexts.full().replace("fade 9;", "fade 8;").replace("way pf 4 11;",
+                    "way pf 4 11 e 7 n 6 w 10 s 4;"));
+            y.years(11, 9, 5);
+            y.beat(142, 143);
+            sentence(y, "(weight<5 or weight>5)and not sole=4 and trod pf", 6, 0);
+            is("restore(1)", x.restore(1), true);
+            sameHouse(x, y);
+            is("seen(0, 7)", x.seen(0, 7), y.seen(0, 7));
+            is("it can be seen", y.lay(0) >= 0, true);
+            is("lay(0)", x.lay(0), y.lay(0));
+        });
         promise(35, "false: no such one.", () -> {
             RugReader x = of(house);
             x.image(0);
@@ -1476,6 +1544,36 @@ final class BoundaryOfCalls extends Boundary {
             is("it can be undone", x.undo(), 0);
             is("restore(1)", x.restore(1), true);
         });
+    }
+
+    /** The WAYS, walls, doors, people of two HOUSES, and what lies along their fifth WAY. */
+    private static void sameHouse(RugReader x, RugReader y) {
+        for (int what = 0; what < 9; what++) {
+            is("count(" + what + ")", x.count(what), y.count(what));
+        }
+        for (int way = 0; way < 6; way++) {
+            is("way(" + way + ", 0)", x.way(way, 0), y.way(way, 0));
+        }
+        for (int i = 0; i < 28; i++) {
+            int at = y.way(4, i);
+            is("way(4, " + i + ")", x.way(4, i), at);
+            for (int what = 0; what < 8; what += 2) {
+                is("tuft(" + at + ", " + what + ")", x.tuft(at, what), y.tuft(at, what));
+            }
+        }
+        for (int at : new int[] {0, 1, 9, 10, 12, 33, 34, 60, 67, 68, 142}) {
+            is("a wall on " + at, x.tuft(at, 6), y.tuft(at, 6));
+            is("a door on " + at, x.tuft(at, 7), y.tuft(at, 7));
+            is("missing(" + at + ")", x.missing(at), y.missing(at));
+        }
+        for (int p = 0; p < 6; p++) {
+            for (int what = 0; what < 6; what++) {
+                is("person(" + p + ", " + what + ")", x.person(p, what), y.person(p, what));
+            }
+        }
+        for (int k = -1; k < 7; k++) {
+            is("said(" + k + ")", x.said(k), y.said(k));
+        }
     }
 
     private static void count() {

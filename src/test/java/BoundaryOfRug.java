@@ -254,6 +254,17 @@ final class BoundaryOfRug extends Boundary {
             readings(y, 46656, 0, 0, 54, 1);
             readings(y, 1, 0, 0, 0, 255);
             readings(y, 0, 0, 0, 63, 255);
+            // Who walked over other TUFTS since is not ON TOP of this one.
+            RugReader z = of("rug 3 2;fade 1;person a 1 1 9;person b 2 2 9;way p 0 0;way q 1 0;way r 0 0;");
+            readings(z, 2, 0, 0, 1, 1, 1, 0, 2, 2);
+            readings(z, 0, 0, 0, 1, 2, 1, 0, 2, 2);
+            // Readings of a HOUSE that was are none of this one's.
+            readings(z, 6, 0, 0, 1, 1);
+            tell(z, "rug 3 2;fade 1;person a 1 1 9;person b 2 2 9;way p 0 0;");
+            is("house()", z.house(), 5);
+            readings(z, 0, 0, 0, 1, 2);
+            readings(z, 1, 0, 0, 1, 1);
+            readings(z, 1, 0, 0, 0, 255);
             is("once: twice over a TUFT is one walk",
                     readingsOnce("rug 2 2;fade 2;person a 1 1 1;way p 0 0 e 1 w 1;", 0, 0, 4, 1), 1);
             is("once: not twice", readingsOnce("rug 2 2;fade 2;person a 1 1 1;way p 0 0 e 1 w 1;", 1, 0, 4, 1), 0);
@@ -450,6 +461,11 @@ final class BoundaryOfRug extends Boundary {
             is("lay(1)", v.lay(1), 12);
             RugReader u = of("rug 3 2;wall 0 0;door 0 0;door 2 0;");
             is("a door in a wall: no way on", u.seen(0, 1), 0);
+            // Houses whose shortest way on takes up TUFTS that two other ones need.
+            laid("rug 7 4;wall 4 1;door 1 1;door 5 1;", 3, 18, 29);
+            laid("rug 7 7;wall 1 1;wall 3 1;wall 6 1;wall 2 3;wall 6 3;wall 2 4;wall 5 4;wall 0 5;wall 2 5;wall 3 6;"
+                    + "door 3 3;door 0 0;", 1, 12);
+            laid("rug 5 4;door 2 0;door 0 2;", 1, 3, 14);
         });
         terms("26, 27", "of like ones the first row (rising).", () -> {
             RugReader x = of("rug 12 2;" + walls(1, 11) + "door 0 0;door 11 0;");
@@ -471,6 +487,17 @@ final class BoundaryOfRug extends Boundary {
                 is("lay(" + i + ")", z.lay(i), row[i]);
             }
         });
+    }
+
+    /** What is SEEN between the first two doors of a HOUSE, there and back. */
+    private static void laid(String house, int... row) {
+        RugReader x = of(house);
+        for (int from = 0; from < 2; from++) {
+            is("seen(" + from + ", " + (1 - from) + ") in '" + house + "'", x.seen(from, 1 - from), row.length);
+            for (int i = 0; i <= row.length; i++) {
+                is("lay(" + i + ")", x.lay(i), i < row.length ? row[i] : -1);
+            }
+        }
     }
 
     private static String walls(int y, int to) {
@@ -572,10 +599,20 @@ final class BoundaryOfRug extends Boundary {
             x.beat(0, 0);
             x.days(2);
             x.goes(1, 1, 0);
+            x.goes(0, 0, 1);
+            x.beat(1, 13);
+            x.goes(0, 0, 1);
             sentence(x, "weight>0", 1, 0);
             tell(x, TINY);
             is("house()", x.house(), 6);
             same("a new HOUSE", state(x), state(of(TINY)));
+            for (int i = 0; i < 3; i++) {
+                x.days(1);
+                is("nothing is HIDDEN a DAY later", x.hidden(-1), 0);
+                is("nothing lies a DAY later", x.deepest(), -1);
+            }
+            tell(x, TINY);
+            x.house();
             is("a clean rug", x.deepest(), -1);
             is("DAY 0", x.count(7), 0);
             is("no SENTENCE", x.said(-1), -1);

@@ -201,7 +201,7 @@ final class BoundaryOfTexts extends Boundary {
     }
 
     /** A HOUSE of as many LINES as there can be. */
-    private static String full() {
+    static String full() {
         StringBuilder t = new StringBuilder("rug 12 12;fade 9;");
         for (int i = 0; i < 6; i++) {
             t.append("person ").append(NAMES[i]).append(' ').append(i + 1).append(' ').append(9 - i).append(" 1;");
@@ -497,6 +497,18 @@ final class BoundaryOfTexts extends Boundary {
             said(x, "not(place=0 or place=1)", 4);
             said(x, "(place=0 or place=1)and place=1", 2);
             said(x, "((place=0))", 1);
+            // What stands ahead of brackets waits until they are judged.
+            said(x, "place<2 and(place<2 and place<1)", 1);
+            said(x, "place<1 or(place=1 and place<2)", 3);
+            said(x, "place=0 or(place=1 or place=2)", 7);
+            said(x, "place<3 and(place=0 or place=1)", 3);
+            said(x, "place=2 or(place<2 and(place<1 or place=2))", 5);
+            said(x, "place<2 and(place>0 or(place<1 and sole=1))", 3);
+            said(x, "place<2 and(place<2 and(place<2 and(place<2 and(place<2 and place>0))))", 2);
+            said(x, "place=0 or(place=5 or(place=5 or(place=5 or(place=5 or(place=2)))))", 5);
+            said(x, "not place=0 and(not place=1 or not(place=2 or place=1))", 4);
+            said(x, "(place=0 or place=1)and(place=1 or place=2)", 2);
+            said(x, "(place=0 and place=1)or(place=1 and not place=2)", 2);
             sentenceFault(x, "not^", 1);
             sentenceFault(x, "not ^or place=0", 1);
             sentenceFault(x, "(^", 1);
@@ -511,12 +523,15 @@ final class BoundaryOfTexts extends Boundary {
     private static void ones() {
         terms("33, 34", "'trod' WAY (a print of this one, of whatever soles, lies on a TUFT of it)", () -> {
             RugReader x = of("rug 5 3;fade 2;person a 3 1 2;person b 5 2 1;person c 5 3 9;way p 0 0 e 4;"
-                    + "way q 0 2 n 2 e 1;way r 4 2;");
+                    + "way q 0 2 n 2 e 1;way r 4 2;way t 0 2;way u 0 1 e 2;way v 1 1 e 1;");
             said(x, "trod p", 0);
             x.goes(0, 1, 1);
             said(x, "trod q", 1);
             said(x, "trod p", 1);
             said(x, "trod r", 0);
+            said(x, "trod t", 1);
+            said(x, "trod u", 1);
+            said(x, "trod v", 0);
             x.goes(1, 0, 2);
             said(x, "trod q", 3);
             x.beat(0, 1);
