@@ -560,19 +560,26 @@ final class BoundaryOfCalls extends Boundary {
                 + "most are kept);", () -> {
             String house = "rug 2 2;person a 3 1 9;person b 5 2 9;way p 0 0 e 1;way q 1 1 n 1;fade 4;";
             RugReader x = of(house);
-            String[] was = new String[5];
+            String[] was = new String[4];
             was[0] = state(x);
             x.goes(0, 0, 1);
             was[1] = state(x);
             x.beat(0, 0);
-            was[2] = state(x);
-            x.days(2);
-            was[3] = state(x);
-            x.years(3, 2, 77);
-            for (int i = 3; i >= 0; i--) {
-                is("undo()", x.undo(), i);
-                same("undone", state(x), was[i]);
-            }
+            is("undo() of beat()", x.undo(), 1);
+            same("undone", state(x), was[1]);
+            is("undo() of goes()", x.undo(), 0);
+            same("undone", state(x), was[0]);
+            RugReader w = of(house);
+            w.goes(0, 0, 1);
+            w.beat(0, 0);
+            was[2] = state(w);
+            w.days(2);
+            was[3] = state(w);
+            w.years(3, 2, 77);
+            is("undo() of years()", w.undo(), 3);
+            same("undone", state(w), was[3]);
+            is("undo() of days()", w.undo(), 2);
+            same("undone", state(w), was[2]);
             // All of the tread ON TOP comes back: person, SOLE, DIR, age.
             RugReader z = of(house);
             z.goes(0, 0, 0);
@@ -1350,10 +1357,10 @@ final class BoundaryOfCalls extends Boundary {
             sentence(x, "sole=2" + " and sole=2".repeat(17), 18, 0);
             saidNow(x, "eighteen ONES", 2);
             // As often as one likes: nothing of SENTENCES that were is in a later one.
-            for (int i = 0; i < 10; i++) {
-                sentence(x, "sole=2" + " or sole=1".repeat(17), 18, 0);
-                sentence(x, "sole=1" + " and sole=1".repeat(17), 18, 0);
-                saidNow(x, "the latest one", 1);
+            for (int i = 0; i < 20; i++) {
+                int sole = i % 3 == 0 ? 1 : 2;
+                sentence(x, "sole=" + sole + (" and sole=" + sole).repeat(17), 18, 0);
+                saidNow(x, "the latest one", sole);
             }
             is("no act", x.undo(), -1);
         });
@@ -1457,8 +1464,12 @@ final class BoundaryOfCalls extends Boundary {
             sentence(x, "(weight<5 or weight>5)and not sole=4 and trod pf", 6, 0);
             x.image(1);
             for (int i = 0; i < 2; i++) {
-                tell(x, HOUSE);
-                x.house();
+                StringBuilder other = new StringBuilder("rug 12 12;person z 9 9 9;wall 10 0;wall 10 1;");
+                for (String name : new String[] {"p", "q", "r", "t", "u", "v"}) {
+                    other.append("way ").append(name).append(" 11 1 s 10 w 11 n 9 e 8;");
+                }
+                tell(x, other + "door 8 5;door 3 3;door 2 2;");
+                is("another HOUSE", x.house(), 13);
                 sentence(x, "(weight>5 and weight<5)or not sole>4 or trod q", 6, 0);
             }
             RugReader y = of(BoundaryOfTexts.full().replace("fade 9;", "fade 8;").replace("way pf 4 11;",

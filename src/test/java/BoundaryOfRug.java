@@ -625,6 +625,16 @@ final class BoundaryOfRug extends Boundary {
             is("without people", x.count(2), 0);
             is("without a rug", x.count(0), 0);
             is("nothing can be undone", x.undo(), -1);
+            tell(x, TINY);
+            x.house();
+            for (int p = 0; p < 2; p++) {
+                for (int way = 0; way < 2; way++) {
+                    x.goes(p, way, p);
+                }
+            }
+            tell(x, TINY);
+            x.house();
+            same("a new HOUSE", state(x), state(of(TINY)));
         });
         terms("4, 20, 21, 25, 27, 36", "(what other calls told last stays).", () -> {
             RugReader x = of(TINY + "door 0 0;door 1 1;");

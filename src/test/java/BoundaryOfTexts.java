@@ -665,10 +665,8 @@ final class BoundaryOfTexts extends Boundary {
         terms("4, 5, 24, 33", "1 no TOKEN, or one that can't come (at it;", () -> {
             badAtEach("rug 5 3 ; person a 3 1 2 ; way p 0 0 e 4 s 1 ; wall 2 1 ; door 0 0 ; fade 4 ;", "<",
                     t -> houseFault(t, 1));
-            RugReader x = of(SMALL);
-            badAtEach("a 0 0 ; e 1 1 ;", "<", t -> walkFault(x, t, 1));
-            RugReader y = of(SMALL);
-            badAtEach("not ( trod p or sole = 1 ) and place", ";", t -> sentenceFault(y, t, 1));
+            badAtEach("a 0 0 ; e 1 1 ;", "<", t -> walkFault(of(SMALL), t, 1));
+            badAtEach("not ( trod p or sole = 1 ) and place", ";", t -> sentenceFault(of(SMALL), t, 1));
         });
         terms("4, 5, 24, 33", "the end: how many bytes there are;", () -> {
             houseFault("rug^", 1);
@@ -731,9 +729,8 @@ final class BoundaryOfTexts extends Boundary {
             String[] house = "rug 5 3 ; person a 3 1 2 ; way p 0 0 e 4 s 1 ; wall 2 1 ; door 0 0 ; fade 4 ;".split(" ");
             eachNumber(house, "999", t -> houseFault(t, 2));
             eachNumber(house, "100", t -> houseFault(t, 2));
-            RugReader x = of(SMALL);
-            eachNumber("a 0 0 ; e 1 1 ;".split(" "), "999", t -> walkFault(x, t, 2));
-            eachNumber("a 0 0 ; e 1 1 ;".split(" "), "100", t -> walkFault(x, t, 2));
+            eachNumber("a 0 0 ; e 1 1 ;".split(" "), "999", t -> walkFault(of(SMALL), t, 2));
+            eachNumber("a 0 0 ; e 1 1 ;".split(" "), "100", t -> walkFault(of(SMALL), t, 2));
         });
         terms("4, 5, 24", "X, Y without a rug, too);", () -> {
             houseFault("wall ^0 0;", 2);
